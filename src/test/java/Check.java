@@ -55,6 +55,15 @@ final class Check {
         refused(what, UnsupportedOperationException.class, act);
     }
 
+    /** Ends what the plain coder wrote; the object has ended already. */
+    static void sameBytes(String what, InkCoder ink, PlainCoder plain) {
+        plain.endWriting();
+        due(what + ": length()", ink.length(), plain.code.size());
+        for (int i = 0; i < ink.length() && i < plain.code.size(); i++) {
+            due(what + ": code(" + i + ")", ink.code(i), plain.code.get(i));
+        }
+    }
+
     static void done() {
         System.out.println(wrong == 0 ? "all answers are as due" : wrong + " answers are not as due");
         if (wrong != 0) {
