@@ -488,7 +488,7 @@ public final class InkCoder {
             if (y < 0 || y >= h || last < 0 || last > FIRST_BIT) {
                 return 0;
             }
-            return rows[y] >>> (FIRST_BIT - last) & (1 << width) - 1;
+            return rows[y] >>> (FIRST_BIT - last) & ((1 << width) - 1);
         }
 
         /** Draws another picture with its upper left point at (x, y), which may be far outside. */
@@ -502,13 +502,13 @@ public final class InkCoder {
                 int row = y + v;
                 if (row >= 0 && row < h) {
                     int both = mixed(rows[row], shifted(other.rows[v], x), operation);
-                    rows[row] = rows[row] & ~under | both & under;
+                    rows[row] = (rows[row] & ~under) | (both & under);
                 }
             }
         }
 
         private int allColumns() {
-            return (1 << w) - 1 << FIRST_BIT + 1 - w;
+            return ((1 << w) - 1) << (FIRST_BIT + 1 - w);
         }
 
         private static int shifted(int row, int x) {
@@ -694,7 +694,6 @@ public final class InkCoder {
             n = 12;
         }
 
-        @Override
         int decide(int context, int decision) {
             int q = contexts.sizeOf(context);
             boolean asUsual = decision == contexts.likely(context);
@@ -782,7 +781,6 @@ public final class InkCoder {
             a = HALF;
         }
 
-        @Override
         int decide(int context, int decision) {
             int q = contexts.sizeOf(context);
             int likely = contexts.likely(context);
@@ -917,7 +915,7 @@ public final class InkCoder {
             }
             int rest = 0;
             for (int bit = BITS[range] - 1; bit >= 0; bit--) {
-                r = follow(coder, base, r, m - STARTS[range] >>> bit & 1);
+                r = follow(coder, base, r, (m - STARTS[range]) >>> bit & 1);
                 rest = 2 * rest + (r & 1);
             }
             if (negative && range == 0 && rest == 0) {
@@ -938,7 +936,7 @@ public final class InkCoder {
         /** Codes a decision in the context r and answers the next r, whose lowest bit is the decision. */
         private static int follow(Coder coder, int base, int r, int decision) {
             int next = 2 * r + coder.decide(base + r, decision);
-            return r < 256 ? next : next & 255 | 256;
+            return r < 256 ? next : (next & 255) | 256;
         }
 
         private static boolean isOne(int r) {

@@ -14,6 +14,9 @@ public final class ModelTest {
             thereAndBack(new Twin("there and back, seed " + seed), new Random(seed));
             anyBytes(new Twin("any bytes, seed " + seed), new Random(seed));
         }
+        for (int seed = 0; seed < 8; seed++) {
+            largestBoards(new Twin("largest boards, seed " + seed), new Random(seed));
+        }
         for (int seed = 0; seed < 60; seed++) {
             fullCode(new Twin("full code, seed " + seed), new Random(seed));
         }
@@ -164,6 +167,30 @@ public final class ModelTest {
             twin.look(random, 10);
         }
         twin.look(random, 100);
+    }
+
+    /** Boards of 24 times 24, refined with shifts that bring each edge over each other edge. */
+    private static void largestBoards(Twin twin, Random random) {
+        int[] shifts = {-24, -23, -1, 0, 1, 23, 24};
+        noise(twin, random, 24, 100);
+        for (int b = 0; b < 2; b++) {
+            twin.size(b, 24, 24);
+        }
+        twin.begin(false);
+        for (int b = 0; b < 2; b++) {
+            twin.region(b, 1, false);
+        }
+        for (int writing = 1; writing >= 0; writing--) {
+            twin.begin(writing == 1);
+            for (int dx : shifts) {
+                for (int dy : shifts) {
+                    twin.refine(0, 1, dx, dy);
+                    twin.draw(1, 0, dx, dy, random.nextInt(5));
+                }
+            }
+            twin.end();
+        }
+        twin.look(random, 60);
     }
 
     /** More than 600 bytes go out: those behind are lost, with what would be carried into them. */
