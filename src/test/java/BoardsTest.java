@@ -7,6 +7,8 @@ public final class BoardsTest {
         point();
         draw();
         drawAtTheEdges();
+        drawKeepsWhatIsBeside();
+        drawOverEachEdge();
         board();
         Check.done();
     }
@@ -150,6 +152,42 @@ public final class BoardsTest {
         Check.due("on the smallest board", ink.board(3, 0), 1);
     }
 
+    /** Only points that lie under one of the picture's change, whatever the operation. */
+    private static void drawKeepsWhatIsBeside() {
+        String[][] due = {
+            {"1010", "0111", "1110", "0101"},
+            {"1010", "0001", "1000", "0101"},
+            {"1010", "0111", "1110", "0101"},
+            {"1010", "0001", "1000", "0101"},
+            {"1010", "0011", "1100", "0101"}
+        };
+        for (int operation = 0; operation < 5; operation++) {
+            InkCoder ink = new InkCoder();
+            Sight.set(ink, 0, "1010", "0101", "1010", "0101");
+            Sight.set(ink, 1, "01", "10");
+            ink.draw(0, 1, 1, 1, operation);
+            Check.due("draw in the midst by " + operation, Sight.rows(ink, 0), String.join("\n", due[operation]) + "\n");
+        }
+    }
+
+    /** A picture of 3 times 2 on a board of 4 times 5: how many points are under it, from just beside to just beside. */
+    private static void drawOverEachEdge() {
+        int[] columns = {0, 1, 2, 3, 3, 2, 1, 0};
+        int[] rows = {0, 1, 2, 2, 2, 2, 1, 0};
+        for (int i = 0; i < columns.length; i++) {
+            for (int j = 0; j < rows.length; j++) {
+                InkCoder ink = new InkCoder();
+                ink.size(0, 4, 5);
+                ink.size(1, 3, 2);
+                ink.draw(0, 1, i - 3, j - 2, 3);
+                Check.due("drawn at " + (i - 3) + ", " + (j - 2), ink.board(0, 0), columns[i] * rows[j]);
+                if (columns[i] * rows[j] > 0) {
+                    Check.due("its first point", ink.point(0, Math.max(0, i - 3), Math.max(0, j - 2)), true);
+                }
+            }
+        }
+    }
+
     private static void board() {
         InkCoder ink = new InkCoder();
         ink.size(2, 24, 3);
@@ -163,5 +201,10 @@ public final class BoardsTest {
         Check.outOfBounds("board(-1, 7)", () -> ink.board(-1, 7));
         Check.wrongArgument("board(2, 3)", () -> ink.board(2, 3));
         Check.wrongArgument("board(2, -1)", () -> ink.board(2, -1));
+        ink.size(0, 24, 24);
+        ink.size(1, 24, 24);
+        Check.due("board: no points", ink.board(0, 0), 0);
+        ink.draw(0, 1, 0, 0, 3);
+        Check.due("board: all points", ink.board(0, 0), 576);
     }
 }

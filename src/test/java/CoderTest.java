@@ -19,6 +19,8 @@ public final class CoderTest {
         publishedBytesAreWritten();
         publishedBytesAreRead();
         beginStartsAnew();
+        beginForgetsWhatWasRead();
+        readingKeepsCode();
         fullCode();
         Check.done();
     }
@@ -88,7 +90,7 @@ public final class CoderTest {
         Check.due("length", ink.length(), 0);
         // C is 32767 << 12: first 255, then its 7 bits behind a stuffed one, then 255 and 172
         Check.due("end()", ink.end(), 4);
-        Check.due("bytes", bytes(ink), "255 127 255 172");
+        Check.due("bytes", Sight.bytes(ink), "255 127 255 172");
         Check.due("state", ink.state(), 0);
         Check.wrongState("end() once more", ink::end);
     }
@@ -101,16 +103,8 @@ public final class CoderTest {
         ink.put(5);
         ink.begin(false);
         Check.due("end()", ink.end(), 1);
-        Check.due("bytes", bytes(ink), "5");
+        Check.due("bytes", Sight.bytes(ink), "5");
         Check.due("state", ink.state(), 0);
-    }
-
-    private static String bytes(InkCoder ink) {
-        StringBuilder text = new StringBuilder();
-        for (int i = 0; i < ink.length(); i++) {
-            text.append(i == 0 ? "" : " ").append(ink.code(i));
-        }
-        return text.toString();
     }
 
     private static int decision(int i) {
@@ -120,12 +114,10 @@ public final class CoderTest {
     /** A board of one point has nothing around it, so each of its regions is a decision in one context. */
     private static void publishedBytesAreWritten() {
         InkCoder ink = new InkCoder();
+        ink.flip(1, 0, 0);
         ink.begin(true);
         for (int i = 0; i < 256; i++) {
-            if (ink.point(0, 0, 0) != (decision(i) == 1)) {
-                ink.flip(0, 0, 0);
-            }
-            ink.region(0, 3, false);
+            ink.region(decision(i), 3, false);
         }
         Check.due("published: end()", ink.end(), CODED.length);
         for (int i = 0; i < CODED.length; i++) {
@@ -157,7 +149,7 @@ public final class CoderTest {
         Check.due("begin(true) while writing", ink.length() * 10 + ink.state(), 1);
         ink.number(0, 777);
         int first = ink.end();
-        String bytes = bytes(ink);
+        String bytes = Sight.bytes(ink);
         ink.begin(false);
         Check.due("number(0)", ink.number(0, 0), 777);
         ink.begin(false);
@@ -166,7 +158,7 @@ public final class CoderTest {
         Check.due("begin(true) while reading", ink.length() * 10 + ink.state(), 1);
         ink.number(0, 777);
         Check.due("end()", ink.end(), first);
-        Check.due("contexts are as at first", bytes(ink), bytes);
+        Check.due("contexts are as at first", Sight.bytes(ink), bytes);
         ink.begin(true);
         for (int i = 0; i < 40; i++) {
             ink.number(1, 123456 + 999 * i);
@@ -175,6 +167,69 @@ public final class CoderTest {
         ink.begin(false);
         Check.due("begin(false) while writing", ink.length() * 10 + ink.state(), out * 10 + 2);
         Check.due("what went out is read", ink.number(1, 0), 123456);
+    }
+
+    /** "When it begins, all contexts are as at first", of each sort. */
+    private static void beginForgetsWhatWasRead() {
+        InkCoder ink = new InkCoder();
+        Sight.set(ink, 0, "1101", "1101", "0110");
+        Sight.set(ink, 1, "1001", "0110");
+        ink.learn(1);
+        ink.mark(0, 1, 1);
+        for (int i = 0; i < 3; i++) {
+            ink.begin(true);
+            codeEachSort(ink);
+            if (i == 1) {
+                codeEachSort(ink);
+                ink.begin(false);
+                codeEachSort(ink);
+                ink.begin(true);
+                codeEachSort(ink);
+            }
+            ink.end();
+            Check.due("bytes of each sort", Sight.bytes(ink), Sight.bytes(eachSort()));
+        }
+    }
+
+    private static InkCoder eachSort() {
+        InkCoder ink = new InkCoder();
+        Sight.set(ink, 0, "1101", "1101", "0110");
+        Sight.set(ink, 1, "1001", "0110");
+        ink.learn(1);
+        ink.mark(0, 1, 1);
+        ink.begin(true);
+        codeEachSort(ink);
+        ink.end();
+        return ink;
+    }
+
+    private static void codeEachSort(InkCoder ink) {
+        for (int template = 1; template < 4; template++) {
+            ink.region(0, template, true);
+            ink.number(template - 1, -30);
+        }
+        ink.refine(1, 0, 1, 0);
+        ink.dictionary();
+        ink.text(3, 0, false, 1);
+    }
+
+    /** "reading (CODE stays then)", however far it was read. */
+    private static void readingKeepsCode() {
+        InkCoder ink = new InkCoder();
+        int[] all = {0, 255, 143, 255, 144, 9};
+        for (int v : all) {
+            ink.put(v);
+        }
+        for (int i = 0; i < 4; i++) {
+            ink.begin(false);
+            for (int k = 0; k < 10 * i; k++) {
+                ink.number(k % 3, 0);
+            }
+            Check.due("length() while reading", ink.length(), 6);
+            Check.due("code(4) while reading", ink.code(4), 144);
+            Check.due("end()", ink.end(), 6);
+            Check.due("CODE stays", Sight.bytes(ink), "0 255 143 255 144 9");
+        }
     }
 
     private static void fullCode() {

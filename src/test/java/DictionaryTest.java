@@ -12,10 +12,8 @@ public final class DictionaryTest {
         thereAndBack();
         eight();
         widest();
-        sameHeightTwice();
-        brokenCounts();
-        brokenHeights();
-        brokenWidths();
+        heightsAndWidthsAreWritten();
+        secondDictionary();
         symbolsShareTemplateTwo();
         Check.done();
     }
@@ -161,135 +159,66 @@ public final class DictionaryTest {
         goAndComeBack(new int[][] {{24, 24}, {1, 24}, {24, 1}, {1, 1}});
     }
 
+    private static void learnMade(InkCoder ink, int w, int h) {
+        ink.size(0, w, h);
+        for (int y = 0; y < h; y++) {
+            for (int x = 0; x < w; x++) {
+                if (Made.point(w, h, x, y) == 1) {
+                    ink.flip(0, x, y);
+                }
+            }
+        }
+        ink.learn(0);
+    }
+
+    /** None, one, eight; sides of 1 and 24; heights and widths that become less, that stay, that begin anew. */
+    private static void heightsAndWidthsAreWritten() {
+        String[][] all = {
+            {"", "C0"},
+            {"1x1", "C1 H1 W1 P W-"},
+            {"24x1", "C1 H1 W24 P W-"},
+            {"1x24", "C1 H24 W1 P W-"},
+            {"24x24 1x24 24x1 1x1", "C4 H24 W24 P W-23 P W- H-23 W24 P W-23 P W-"},
+            {"1x1 24x1 1x24", "C3 H1 W1 P W23 P W- H23 W1 P W-"},
+            {"2x3 2x3 2x3 2x3 2x3 2x3 2x3 2x3", "C8 H3 W2 P W0 P W0 P W0 P W0 P W0 P W0 P W0 P W-"},
+            {"3x1 3x2 3x1 3x2 3x1 3x2 3x1 3x2",
+                "C8 H1 W3 P W- H1 W3 P W- H-1 W3 P W- H1 W3 P W- H-1 W3 P W- H1 W3 P W- H-1 W3 P W- H1 W3 P W-"}
+        };
+        for (String[] row : all) {
+            InkCoder ink = new InkCoder();
+            String[] symbols = row[0].isEmpty() ? new String[0] : row[0].split(" ");
+            for (String sides : symbols) {
+                String[] side = sides.split("x");
+                learnMade(ink, Integer.parseInt(side[0]), Integer.parseInt(side[1]));
+            }
+            ink.begin(true);
+            Check.due("written " + row[0], ink.dictionary(), symbols.length);
+            ink.end();
+            Check.due("bytes of " + row[0], Sight.bytes(ink), Made.bytes(row[1]));
+            Check.due("symbols stay", Sight.symbols(ink), symbols.length);
+        }
+    }
+
+    /** h is 0 first each time. */
+    private static void secondDictionary() {
+        InkCoder ink = new InkCoder();
+        learnMade(ink, 2, 5);
+        ink.begin(true);
+        ink.dictionary();
+        ink.dictionary();
+        ink.end();
+        Check.due("two dictionaries", Sight.bytes(ink), Made.bytes("C1 H5 W2 P W- C1 H5 W2 P W-"));
+        ink.begin(false);
+        ink.dictionary();
+        Check.due("two dictionaries, read", ink.dictionary(), 1);
+        Check.due("the second one's height", ink.symbol(0, -2, 0), 5);
+    }
+
     private static PlainCoder numbered(long count) {
         PlainCoder plain = new PlainCoder();
         plain.beginWriting();
         plain.writeNumber(COUNT, count);
         return plain;
-    }
-
-    private static InkCoder reading(PlainCoder plain) {
-        plain.endWriting();
-        InkCoder ink = new InkCoder();
-        for (int v : plain.code) {
-            ink.put(v);
-        }
-        ink.learn(0);
-        ink.learn(0);
-        ink.mark(1, 2, 3);
-        ink.begin(false);
-        return ink;
-    }
-
-    private static void broken(String what, PlainCoder plain) {
-        InkCoder ink = reading(plain);
-        int length = ink.length();
-        Check.due(what, ink.dictionary(), InkCoder.BROKEN);
-        Check.due(what + ": state", ink.state(), 0);
-        Check.due(what + ": CODE stays", ink.length(), length);
-        Check.outOfBounds(what + ": symbols", () -> ink.symbol(0, -1, 0));
-        Check.outOfBounds(what + ": marks", () -> ink.marked(0, 0));
-        Check.wrongState(what + ": once more", ink::dictionary);
-    }
-
-    private static void sound(String what, PlainCoder plain, int due) {
-        plain.writeNumber(0, 5L);
-        InkCoder ink = reading(plain);
-        Check.due(what, ink.dictionary(), due);
-        Check.due(what + ": state", ink.state(), 2);
-        Check.due(what + ": what is behind", ink.number(0, 0), 5);
-    }
-
-    private static void sameHeightTwice() {
-        PlainCoder plain = numbered(2);
-        plain.writeNumber(HEIGHT, 2L);
-        plain.writeNumber(WIDTH, 3L);
-        writePicture(plain, 3, 2);
-        plain.writeNumber(WIDTH, null);
-        plain.writeNumber(HEIGHT, 0L);
-        plain.writeNumber(WIDTH, 3L);
-        writePicture(plain, 3, 2);
-        plain.writeNumber(WIDTH, null);
-        sound("a height that stays", plain, 2);
-    }
-
-    private static void brokenCounts() {
-        long[] wrong = {9, -1, 100000, 2147483647L, -2147483647L};
-        for (long count : wrong) {
-            broken("COUNT " + count, numbered(count));
-        }
-        PlainCoder plain = new PlainCoder();
-        plain.beginWriting();
-        plain.writeNumber(COUNT, null);
-        broken("COUNT of NO NUMBER", plain);
-        sound("COUNT 0", numbered(0), 0);
-    }
-
-    private static PlainCoder firstOfTwo(long h, long w) {
-        PlainCoder plain = numbered(2);
-        plain.writeNumber(HEIGHT, h);
-        plain.writeNumber(WIDTH, w);
-        writePicture(plain, (int) w, (int) h);
-        return plain;
-    }
-
-    private static void brokenHeights() {
-        Long[] wrong = {0L, 25L, -1L, null, 2147483647L};
-        for (Long h : wrong) {
-            PlainCoder plain = numbered(1);
-            plain.writeNumber(HEIGHT, h);
-            broken("HEIGHT " + h, plain);
-        }
-        Long[] wrongNext = {-3L, 22L, null, 2147483647L, -2147483647L};
-        for (Long h : wrongNext) {
-            PlainCoder plain = firstOfTwo(3, 2);
-            plain.writeNumber(WIDTH, null);
-            plain.writeNumber(HEIGHT, h);
-            broken("next HEIGHT " + h, plain);
-        }
-        int[] sides = {1, 24};
-        for (int h : sides) {
-            PlainCoder plain = numbered(1);
-            plain.writeNumber(HEIGHT, (long) h);
-            plain.writeNumber(WIDTH, 2L);
-            writePicture(plain, 2, h);
-            plain.writeNumber(WIDTH, null);
-            sound("HEIGHT " + h, plain, 1);
-        }
-    }
-
-    private static void brokenWidths() {
-        Long[] wrong = {0L, 25L, -1L, null, 2147483647L};
-        for (Long w : wrong) {
-            PlainCoder plain = numbered(1);
-            plain.writeNumber(HEIGHT, 3L);
-            plain.writeNumber(WIDTH, w);
-            broken("WIDTH " + w, plain);
-        }
-        Long[] wrongNext = {-2L, 23L, 2147483647L, -2147483647L};
-        for (Long w : wrongNext) {
-            PlainCoder plain = firstOfTwo(3, 2);
-            plain.writeNumber(WIDTH, w);
-            broken("next WIDTH " + w, plain);
-        }
-        PlainCoder empty = firstOfTwo(3, 2);
-        empty.writeNumber(WIDTH, null);
-        empty.writeNumber(HEIGHT, 1L);
-        empty.writeNumber(WIDTH, null);
-        broken("a height without a symbol", empty);
-        long[] behind = {0, 1, -1, 500};
-        for (long w : behind) {
-            PlainCoder plain = firstOfTwo(3, 2);
-            plain.writeNumber(WIDTH, 0L);
-            writePicture(plain, 2, 3);
-            plain.writeNumber(WIDTH, w);
-            broken("WIDTH " + w + " behind the last symbol of all", plain);
-        }
-        PlainCoder plain = firstOfTwo(1, 1);
-        plain.writeNumber(WIDTH, 23L);
-        writePicture(plain, 24, 1);
-        plain.writeNumber(WIDTH, null);
-        sound("WIDTHs 1 and 24", plain, 2);
     }
 
     private static void symbolsShareTemplateTwo() {

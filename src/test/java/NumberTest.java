@@ -4,7 +4,9 @@ public final class NumberTest {
 
     public static void main(String[] args) {
         thereAndBack();
+        edgesOfTheRanges();
         bytesAreDue();
+        kindsAreApart();
         longNumbersAreRead();
         wrapsAreRead();
         wrong();
@@ -26,6 +28,62 @@ public final class NumberTest {
             Check.due("read", ink.number(i % 3, Integer.MAX_VALUE), -EDGES[i]);
             Check.due("read", ink.number(i % 2, Integer.MIN_VALUE + 1), InkCoder.NO);
         }
+    }
+
+    /** The last number of each range and the first one of the next, with their decisions as the document lists them. */
+    private static void edgesOfTheRanges() {
+        String[][] rows = {
+            {"0", "0", "00"}, {"1", "0", "01"}, {"3", "0", "11"},
+            {"4", "10", "0000"}, {"19", "10", "1111"},
+            {"20", "110", "000000"}, {"83", "110", "111111"},
+            {"84", "1110", "00000000"}, {"339", "1110", "11111111"},
+            {"340", "11110", "000000000000"}, {"4435", "11110", "111111111111"},
+            {"4436", "11111", "00000000000000000000000000000000"},
+            {"4437", "11111", "00000000000000000000000000000001"},
+            {"1000000", "11111", "00000000000011110011000011101100"}
+        };
+        for (String[] row : rows) {
+            int v = Integer.parseInt(row[0]);
+            isCodedAs(v, "0" + row[1] + row[2]);
+            if (v != 0) {
+                isCodedAs(-v, "1" + row[1] + row[2]);
+            }
+        }
+        isCodedAs(InkCoder.NO, "1000");
+    }
+
+    private static void isCodedAs(int v, String decisions) {
+        for (int kind = 0; kind < 3; kind++) {
+            InkCoder ink = new InkCoder();
+            PlainCoder plain = new PlainCoder();
+            ink.begin(true);
+            plain.beginWriting();
+            for (int i = 0; i < 4; i++) {
+                Check.due("number(" + kind + ", " + v + ")", ink.number(kind, v), v);
+                plain.writeDecisions(kind, decisions);
+            }
+            ink.end();
+            Check.sameBytes("number " + v, ink, plain);
+            ink.begin(false);
+            for (int i = 0; i < 4; i++) {
+                Check.due("number(" + kind + ", ..), read", ink.number(kind, i), v);
+            }
+        }
+    }
+
+    /** "each kind has 512 contexts of its own" */
+    private static void kindsAreApart() {
+        InkCoder ink = new InkCoder();
+        PlainCoder plain = new PlainCoder();
+        ink.begin(true);
+        plain.beginWriting();
+        for (int i = 0; i < 60; i++) {
+            int v = i % 3 == 0 ? 7 : i % 3 == 1 ? -700000 : 0;
+            ink.number(i % 3, v);
+            plain.writeNumber(i % 3, (long) v);
+        }
+        ink.end();
+        Check.sameBytes("kinds", ink, plain);
     }
 
     private static void bytesAreDue() {
@@ -77,7 +135,7 @@ public final class NumberTest {
     private static void wrapsAreRead() {
         PlainCoder plain = new PlainCoder();
         plain.beginWriting();
-        long[] lengths = {2147483648L, 2147483649L, 4294967295L, 4294967296L, 4294971731L};
+        long[] lengths = {2147483647L, 2147483648L, 2147483649L, 4294967295L, 4294967296L, 4294967297L, 4294971731L};
         for (long m : lengths) {
             plain.writeDecisions(0, "011111" + bits(m - 4436));
             plain.writeDecisions(0, "111111" + bits(m - 4436));

@@ -2,6 +2,8 @@ import java.util.ArrayList;
 import java.util.HashMap;
 import java.util.List;
 import java.util.Map;
+import java.util.Set;
+import java.util.TreeSet;
 
 /**
  * The document's coder once more, word for word and with contexts by name: it says what bytes are due, and writes
@@ -20,12 +22,14 @@ final class PlainCoder {
     }
 
     final List<Integer> code = new ArrayList<>();
+    /** The edges of the document's sentences that were met, by name: a test can say that it came past them. */
+    final Set<String> met = new TreeSet<>();
     private final Map<String, Context> contexts = new HashMap<>();
     private final int[] sizes = numbers(SIZES);
     private final int[] less = numbers(LESS);
-    private int a;
-    private int c;
-    private int n;
+    int a;
+    int c;
+    int n;
     private int p;
     private int last;
     private boolean lastInCode;
@@ -43,7 +47,18 @@ final class PlainCoder {
         return contexts.computeIfAbsent(name, k -> new Context());
     }
 
+    private void meet(boolean isMet, String edge) {
+        if (isMet) {
+            met.add(edge);
+        }
+    }
+
+    int stateOf(String name) {
+        return context(name).state;
+    }
+
     private void usual(Context x) {
+        met.add("goes on as usual from " + x.state);
         switch (x.state) {
             case 5 -> x.state = 38;
             case 13 -> x.state = 29;
@@ -53,6 +68,7 @@ final class PlainCoder {
     }
 
     private void wrong(Context x) {
+        met.add("is wrong in " + x.state);
         if (x.state == 0 || x.state == 6 || x.state == 14) {
             x.likely = 1 - x.likely;
         }
@@ -73,7 +89,9 @@ final class PlainCoder {
         Context x = context(name);
         int q = sizes[x.state];
         a -= q;
+        meetQ(decision == x.likely ? "writes the more likely one" : "writes the other one", q);
         if (decision == x.likely) {
+            meetHalf("writes the more likely one");
             if (a >= 32768) {
                 c += q;
                 return;
@@ -102,7 +120,30 @@ final class PlainCoder {
         } while (a < 32768);
     }
 
+    private void meetQ(String doing, int q) {
+        meet(a == q, doing + ", A is just q");
+        meet(a == q - 1, doing + ", A is just below q");
+    }
+
+    private void meetHalf(String doing) {
+        meet(a == 32768, doing + ", A is just 32768");
+        meet(a == 32767, doing + ", A is just below 32768");
+    }
+
+    private void meetCarry() {
+        int bit = 1 << 27;
+        meet(last != 255 && c == bit, "C is just 2^27");
+        // its lowest 8 bits at least are 0 when it has doubled so often since something was added
+        meet(last != 255 && c < bit && c >= bit - 256, "C is just below 2^27");
+        meet(last == 255 && c >= bit, "no carry into 255");
+        meet(last == 254 && c >= bit, "a carry makes 255");
+        meet(last < 254 && c >= bit, "a carry makes less than 255");
+        meet(last != 255 && c >= bit && lastInCode && code.size() == 600, "a carry into the 600th byte");
+        meet(last != 255 && c >= bit && !lastInCode, "a carry into a lost byte");
+    }
+
     private void byteGoesOut() {
+        meetCarry();
         if (last != 255 && c >= 1 << 27) {
             last++;
             if (lastInCode) {
@@ -134,6 +175,9 @@ final class PlainCoder {
     void endWriting() {
         int z = c + a;
         c = c | 0xFFFF;
+        // Z is even, for it doubles, and then A and C change by the same
+        meet(c == z - 1, "ends, C is just below Z");
+        meet(c == z + 1, "ends, C is just above Z");
         if (c >= z) {
             c -= 32768;
         }
@@ -141,6 +185,7 @@ final class PlainCoder {
             c = c << n;
             byteGoesOut();
         }
+        met.add(last == 255 ? "ends behind 255" : "ends behind another byte");
         if (last != 255) {
             goOut(255);
         }
@@ -161,7 +206,19 @@ final class PlainCoder {
         a = 32768;
     }
 
+    private void meetByte() {
+        int now = byteAt(p);
+        int following = byteAt(p + 1);
+        meet(now == 255 && following == 143, "reads 143 behind 255");
+        meet(now == 255 && following == 144, "reads 144 behind 255");
+        meet(now == 254 && following > 143, "reads above 143 behind 254");
+        meet(p < code.size() && now != 255 && p + 1 == code.size(), "reads behind the last byte");
+        meet(p == code.size() - 1 && now == 255, "reads behind a last byte 255");
+        meet(p == code.size(), "reads far behind the last byte");
+    }
+
     private void byteComesIn() {
+        meetByte();
         if (byteAt(p) == 255) {
             if (byteAt(p + 1) > 143) {
                 c += 65280;
@@ -183,6 +240,9 @@ final class PlainCoder {
         int q = sizes[x.state];
         int decision = x.likely;
         a -= q;
+        meet(c >>> 16 == q, "U is just q");
+        meet(c >>> 16 == q - 1, "U is just below q");
+        meetQ(c >>> 16 < q ? "reads U below q" : "reads U not below q", q);
         if (c >>> 16 < q) {
             if (a < q) {
                 usual(x);
@@ -193,6 +253,7 @@ final class PlainCoder {
             a = q;
         } else {
             c -= 65536 * q;
+            meetHalf("reads U not below q");
             if (a >= 32768) {
                 return decision;
             }
@@ -223,7 +284,7 @@ final class PlainCoder {
     }
 
     /** The decisions of a number; null is NO NUMBER. */
-    private static String decisions(Long v) {
+    static String decisions(Long v) {
         if (v == null) {
             return "1000";
         }

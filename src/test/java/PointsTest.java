@@ -15,33 +15,16 @@ public final class PointsTest {
         rowsAboveTheFirst();
         typicalKeepsTheRest();
         templatesApart();
+        smallestAndLargest();
+        countsOfSameRows();
+        sameRowsAreReadFromAbove();
         regionWrong();
         refineBytes();
         refineShifts();
+        refineOverTheEdges();
+        refineWithOtherSizes();
         refineWrong();
         Check.done();
-    }
-
-    private static void set(InkCoder ink, int board, String... rows) {
-        ink.size(board, rows[0].length(), rows.length);
-        for (int y = 0; y < rows.length; y++) {
-            for (int x = 0; x < rows[y].length(); x++) {
-                if (rows[y].charAt(x) == '1') {
-                    ink.flip(board, x, y);
-                }
-            }
-        }
-    }
-
-    private static String rows(InkCoder ink, int board) {
-        StringBuilder text = new StringBuilder();
-        for (int y = 0; y < ink.board(board, 2); y++) {
-            for (int x = 0; x < ink.board(board, 1); x++) {
-                text.append(ink.point(board, x, y) ? '1' : '0');
-            }
-            text.append('\n');
-        }
-        return text.toString();
     }
 
     private static int at(String[] rows, int x, int y) {
@@ -79,7 +62,7 @@ public final class PointsTest {
         for (int template = 1; template <= 3; template++) {
             for (int typical = 0; typical < 2; typical++) {
                 InkCoder ink = new InkCoder();
-                set(ink, 2, LETTER);
+                Sight.set(ink, 2, LETTER);
                 ink.begin(true);
                 PlainCoder plain = new PlainCoder();
                 plain.beginWriting();
@@ -89,30 +72,28 @@ public final class PointsTest {
                 }
                 ink.end();
                 Check.sameBytes("region by " + template + ", typical " + typical, ink, plain);
-                Check.due("region: the board stays", rows(ink, 2), String.join("\n", LETTER) + "\n");
+                Check.due("region: the board stays", Sight.rows(ink, 2), String.join("\n", LETTER) + "\n");
             }
         }
     }
 
     private static void regionReads() {
-        InkCoder ink = new InkCoder();
-        set(ink, 0, LETTER);
-        ink.begin(true);
         for (int template = 1; template <= 3; template++) {
+            InkCoder ink = new InkCoder();
+            Sight.set(ink, 0, LETTER);
+            ink.begin(true);
             ink.region(0, template, true);
             ink.region(0, template, false);
-        }
-        ink.end();
-        String due = rows(ink, 0);
-        ink.begin(false);
-        for (int template = 1; template <= 3; template++) {
+            ink.end();
+            String due = Sight.rows(ink, 0);
             ink.size(3, 7, 6);
             ink.draw(3, 2, 1, 1, 3);
+            ink.begin(false);
             Check.due("read: same rows", ink.region(3, template, true), 1);
-            Check.due("read by " + template, rows(ink, 3), due);
+            Check.due("read by " + template, Sight.rows(ink, 3), due);
             ink.draw(3, 0, 3, 1, 2);
             Check.due("read: same rows when it is not typical", ink.region(3, template, false), 0);
-            Check.due("read by " + template, rows(ink, 3), due);
+            Check.due("read by " + template, Sight.rows(ink, 3), due);
         }
     }
 
@@ -124,17 +105,17 @@ public final class PointsTest {
         ink.flip(0, 4, 0);
         Check.due("a first row with a 1 is not", ink.region(0, 1, true), 1);
         ink.end();
-        set(ink, 1, "11111", "11111", "10101");
+        Sight.set(ink, 1, "11111", "11111", "10101");
         ink.begin(false);
         Check.due("read: the same", ink.region(1, 1, true), 3);
         Check.due("read: 0s", ink.board(1, 0), 0);
         Check.due("read: not the same", ink.region(1, 1, true), 1);
-        Check.due("read: rows", rows(ink, 1), "00001\n00000\n00000\n");
+        Check.due("read: rows", Sight.rows(ink, 1), "00001\n00000\n00000\n");
     }
 
     private static void typicalKeepsTheRest() {
         InkCoder ink = new InkCoder();
-        set(ink, 0, "101", "101", "011", "011", "011");
+        Sight.set(ink, 0, "101", "101", "011", "011", "011");
         ink.begin(true);
         Check.due("rows that are the same", ink.region(0, 2, true), 3);
         ink.number(0, 42);
@@ -142,7 +123,7 @@ public final class PointsTest {
         ink.size(1, 3, 5);
         ink.begin(false);
         Check.due("read: rows that are the same", ink.region(1, 2, true), 3);
-        Check.due("read: rows", rows(ink, 1), rows(ink, 0));
+        Check.due("read: rows", Sight.rows(ink, 1), Sight.rows(ink, 0));
         Check.due("read: what is behind", ink.number(0, 0), 42);
     }
 
@@ -153,13 +134,94 @@ public final class PointsTest {
         ink.begin(true);
         plain.beginWriting();
         String[] one = {"1"};
-        set(ink, 0, one);
+        Sight.set(ink, 0, one);
         for (int i = 0; i < 30; i++) {
             ink.region(0, 1 + i % 3, i % 2 == 0);
             writeRegion(plain, one, 1 + i % 3, i % 2 == 0);
         }
         ink.end();
         Check.sameBytes("templates one after another", ink, plain);
+    }
+
+    /** "points outside are 0": boards with sides of 1 and 24 that are full of 1s, or have some on their edges. */
+    private static void smallestAndLargest() {
+        int[][] sides = {{1, 1}, {24, 24}, {1, 24}, {24, 1}, {2, 3}, {23, 24}};
+        for (int[] side : sides) {
+            for (int template = 1; template <= 3; template++) {
+                Twin twin = new Twin("region of " + side[0] + " times " + side[1] + " by " + template);
+                twin.size(0, side[0], side[1]);
+                twin.size(1, side[0], side[1]);
+                twin.begin(true);
+                // all 1, then but the corners, then the corners alone
+                twin.draw(0, 1, 0, 0, 3);
+                for (int i = 0; i < 3; i++) {
+                    twin.region(0, template, true);
+                    twin.region(0, template, false);
+                    if (i == 0) {
+                        flipCorners(twin, side[0], side[1]);
+                    } else if (i == 1) {
+                        twin.draw(0, 1, 0, 0, 3);
+                    }
+                }
+                twin.end();
+                twin.bytesFrom(0);
+                twin.begin(false);
+                for (int i = 0; i < 3; i++) {
+                    twin.region(1, template, true);
+                    twin.board(1, 0);
+                    twin.region(1, template, false);
+                    twin.board(1, 0);
+                }
+                twin.point(1, side[0] - 1, side[1] - 1);
+            }
+        }
+    }
+
+    private static void flipCorners(Twin twin, int w, int h) {
+        twin.flip(0, 0, 0);
+        twin.flip(0, w - 1, 0);
+        twin.flip(0, 0, h - 1);
+        twin.flip(0, w - 1, h - 1);
+    }
+
+    /** From none to all 24 of them; the first row counts when it is of 0s. */
+    private static void countsOfSameRows() {
+        InkCoder ink = new InkCoder();
+        ink.size(0, 24, 24);
+        ink.begin(true);
+        Check.due("all are 0", ink.region(0, 3, true), 24);
+        Check.due("all are 0, not typical", ink.region(0, 3, false), 0);
+        ink.flip(0, 23, 23);
+        Check.due("but the last one", ink.region(0, 3, true), 23);
+        ink.flip(0, 23, 23);
+        ink.flip(0, 0, 0);
+        Check.due("but the first one, so the second one, too", ink.region(0, 3, true), 22);
+        ink.size(1, 24, 24);
+        for (int y = 0; y < 24; y++) {
+            ink.flip(1, y % 2, y);
+        }
+        Check.due("none", ink.region(1, 3, true), 0);
+        ink.size(1, 24, 24);
+        ink.size(2, 24, 24);
+        ink.draw(1, 2, 0, 0, 3);
+        Check.due("all are 1", ink.region(1, 3, true), 23);
+        ink.size(3, 1, 1);
+        Check.due("one point 0", ink.region(3, 3, true), 1);
+        ink.flip(3, 0, 0);
+        Check.due("one point 1", ink.region(3, 3, true), 0);
+    }
+
+    /** What stood on the board is for nothing, but the size. */
+    private static void sameRowsAreReadFromAbove() {
+        InkCoder ink = new InkCoder();
+        Sight.set(ink, 0, "0000", "0000", "1010", "1010", "0101", "0101");
+        ink.begin(true);
+        ink.region(0, 1, true);
+        ink.end();
+        Sight.set(ink, 1, "1111", "0110", "1111", "0000", "1010", "1010");
+        ink.begin(false);
+        Check.due("read over something else", ink.region(1, 1, true), 4);
+        Check.due("read over something else: rows", Sight.rows(ink, 1), Sight.rows(ink, 0));
     }
 
     private static void regionWrong() {
@@ -200,8 +262,8 @@ public final class PointsTest {
         int[][] shifts = {{0, 0}, {1, 2}, {-2, -1}, {6, 5}, {-4, 3}, {24, -24}, {-24, 24}, {7, 0}, {-5, 0}, {0, 6}};
         InkCoder ink = new InkCoder();
         PlainCoder plain = new PlainCoder();
-        set(ink, 0, LETTER);
-        set(ink, 1, other);
+        Sight.set(ink, 0, LETTER);
+        Sight.set(ink, 1, other);
         ink.begin(true);
         plain.beginWriting();
         int[] due = new int[shifts.length];
@@ -219,18 +281,74 @@ public final class PointsTest {
             Check.due("refine: read", ink.refine(2, 1, shifts[i][0], shifts[i][1]), due[i]);
             Check.due("refine: points", ink.board(2, 0), ink.board(0, 0));
         }
-        Check.due("refine: read rows", rows(ink, 2), rows(ink, 0));
+        Check.due("refine: read rows", Sight.rows(ink, 2), Sight.rows(ink, 0));
     }
 
     private static void refineShifts() {
         InkCoder ink = new InkCoder();
-        set(ink, 0, "00000", "00010", "00000");
-        set(ink, 1, "100");
+        Sight.set(ink, 0, "00000", "00010", "00000");
+        Sight.set(ink, 1, "100");
         ink.begin(true);
         Check.due("the same but for the shift", ink.refine(0, 1, 3, 1), 0);
         Check.due("not shifted", ink.refine(0, 1, 0, 0), 2);
         Check.due("shifted out of the board", ink.refine(0, 1, -1, 0), 1);
         Check.due("far away", ink.refine(0, 1, 24, 24), 1);
+    }
+
+    /** The other board has 24 times 24 points that are 1, the board has 0s: only where they overlap are they unlike. */
+    private static void refineOverTheEdges() {
+        int[][] rows = {{0, 0, 576}, {23, 0, 24}, {24, 0, 0}, {-23, 0, 24}, {-24, 0, 0}, {0, 23, 24}, {0, 24, 0},
+            {0, -23, 24}, {0, -24, 0}, {23, 23, 1}, {-23, 23, 1}, {23, -23, 1}, {-23, -23, 1}, {24, 24, 0}, {-24, -24, 0},
+            {1, 0, 552}, {0, -1, 552}, {1, 1, 529}};
+        Twin twin = new Twin("refine over the edges");
+        twin.size(0, 24, 24);
+        twin.size(1, 24, 24);
+        twin.draw(1, 0, 0, 0, 3);
+        twin.begin(true);
+        for (int[] row : rows) {
+            Check.due("unlike by " + row[0] + ", " + row[1], twin.refine(0, 1, row[0], row[1]), row[2]);
+        }
+        twin.flip(0, 0, 0);
+        twin.flip(0, 23, 23);
+        for (int[] row : rows) {
+            twin.refine(0, 1, row[0], row[1]);
+            twin.refine(1, 0, row[0], row[1]);
+        }
+        twin.end();
+        twin.bytesFrom(0);
+        twin.begin(false);
+        for (int[] row : rows) {
+            Check.due("unlike, read, by " + row[0] + ", " + row[1], twin.refine(0, 1, row[0], row[1]), row[2]);
+        }
+    }
+
+    private static void refineWithOtherSizes() {
+        int[][] sides = {{1, 1, 24, 24}, {24, 24, 1, 1}, {1, 24, 24, 1}, {24, 1, 1, 24}, {5, 3, 5, 3}};
+        int[] shifts = {-24, -23, -1, 0, 1, 23, 24};
+        for (int[] side : sides) {
+            Twin twin = new Twin("refine " + side[0] + " times " + side[1] + " by " + side[2] + " times " + side[3]);
+            twin.size(0, side[0], side[1]);
+            twin.size(1, side[2], side[3]);
+            twin.size(2, side[2], side[3]);
+            twin.draw(1, 2, 0, 0, 3);
+            twin.flip(0, side[0] - 1, 0);
+            twin.flip(0, 0, side[1] - 1);
+            twin.begin(true);
+            for (int dx : shifts) {
+                for (int dy : shifts) {
+                    twin.refine(0, 1, dx, dy);
+                }
+            }
+            twin.end();
+            twin.bytesFrom(0);
+            twin.begin(false);
+            for (int dx : shifts) {
+                for (int dy : shifts) {
+                    twin.refine(0, 1, dx, dy);
+                }
+            }
+            twin.board(0, 0);
+        }
     }
 
     private static void refineWrong() {

@@ -2,6 +2,7 @@
 public final class SymbolsTest {
     public static void main(String[] args) {
         learn();
+        learnTheLargest();
         mark();
         forget();
         symbol();
@@ -30,6 +31,30 @@ public final class SymbolsTest {
         Check.due("the new one", ink.symbol(0, -1, 0), 3);
         ink.begin(true);
         Check.due("learn while writing", ink.learn(0), 1);
+    }
+
+    private static void learnTheLargest() {
+        InkCoder ink = new InkCoder();
+        int[][] sides = {{24, 24}, {1, 24}, {24, 1}, {1, 1}};
+        for (int k = 0; k < sides.length; k++) {
+            int w = sides[k][0];
+            int h = sides[k][1];
+            ink.size(0, w, h);
+            ink.flip(0, w - 1, h - 1);
+            Check.due("learn", ink.learn(0), k);
+            Check.due("width", ink.symbol(k, -1, 99), w);
+            Check.due("height", ink.symbol(k, -2, -99), h);
+            Check.due("the last point", ink.symbol(k, w - 1, h - 1), 1);
+            int symbol = k;
+            Check.outOfBounds("a column more", () -> ink.symbol(symbol, w, h - 1));
+            Check.outOfBounds("a row more", () -> ink.symbol(symbol, w - 1, h));
+        }
+        Check.due("the board stays", ink.board(0, 0), 1);
+        ink.size(0, 24, 24);
+        ink.learn(0);
+        ink.forget();
+        ink.learn(0);
+        Check.due("a symbol in the place of a forgotten one has its own points", ink.symbol(0, 23, 23), 0);
     }
 
     private static void mark() {

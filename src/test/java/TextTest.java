@@ -13,14 +13,11 @@ public final class TextTest {
         marksAreDrawnInTheirOrder();
         bytesAreDue();
         thereAndBack();
-        rowsInAnyOrder();
-        brokenCounts();
-        brokenRows();
-        brokenFirsts();
-        brokenIndexes();
-        brokenPlaces();
-        brokenGaps();
-        nothingIsDrawn();
+        outermostMarks();
+        twelveMarks();
+        allIndexes();
+        farMarksAreWritten();
+        countIsSharedWithTheDictionary();
         Check.done();
     }
 
@@ -201,202 +198,115 @@ public final class TextTest {
         }
         return all;
     }
-
-    private static PlainCoder numbered(long count) {
-        PlainCoder plain = new PlainCoder();
-        plain.beginWriting();
-        plain.writeNumber(COUNT, count);
-        return plain;
+    private static void sameBytes(String what, InkCoder ink, String items) {
+        Check.due(what, Sight.bytes(ink), Made.bytes(items));
     }
 
-    /** Begins a row with a mark of symbol 0. */
-    private static void openRow(PlainCoder plain, Long down, Long first) {
-        plain.writeNumber(ROW, down);
-        plain.writeNumber(FIRST, first);
-        plain.writeIndex(0);
-    }
-
-    private static InkCoder reading(PlainCoder plain) {
-        plain.endWriting();
-        InkCoder ink = withSymbols();
-        for (int v : plain.code) {
-            ink.put(v);
-        }
-        ink.mark(1, 2, 3);
-        ink.size(1, 24, 24);
-        ink.begin(false);
-        return ink;
-    }
-
-    private static void broken(String what, PlainCoder plain) {
-        InkCoder ink = reading(plain);
-        int length = ink.length();
-        Check.due(what, ink.text(1, 1, false, 3), InkCoder.BROKEN);
-        Check.due(what + ": state", ink.state(), 0);
-        Check.due(what + ": CODE stays", ink.length(), length);
-        Check.due(what + ": symbols stay", ink.symbol(1, -2, 0), 4);
-        Check.outOfBounds(what + ": marks", () -> ink.marked(0, 0));
-        Check.due(what + ": nothing is drawn", ink.board(1, 0), 0);
-        Check.wrongState(what + ": once more", () -> ink.text(1, 1, false, 3));
-    }
-
-    private static InkCoder sound(String what, PlainCoder plain, int due) {
-        plain.writeNumber(0, 5L);
-        InkCoder ink = reading(plain);
-        Check.due(what, ink.text(1, 1, false, 0), due);
-        Check.due(what + ": state", ink.state(), 2);
-        Check.due(what + ": what is behind", ink.number(0, 0), 5);
-        return ink;
-    }
-
-    private static void rowsInAnyOrder() {
-        PlainCoder plain = numbered(3);
-        openRow(plain, 9L, 4L);
-        plain.writeNumber(GAP, null);
-        openRow(plain, -3L, 1L);
-        plain.writeNumber(GAP, null);
-        openRow(plain, 0L, 1L);
-        plain.writeNumber(GAP, null);
-        InkCoder ink = sound("rows in any order", plain, 3);
-        int[] due = {0, 4, 9, 0, 5, 6, 0, 6, 6};
-        int[] all = allMarks(ink, 3);
-        for (int i = 0; i < 9; i++) {
-            Check.due("marked(" + i / 3 + ", " + i % 3 + ")", all[i], due[i]);
-        }
-        Check.wrongArgument("mark above the latest", () -> ink.mark(0, 0, 5));
-        Check.due("mark below the latest", ink.mark(0, 0, 6), 4);
-    }
-
-    private static void brokenCounts() {
-        long[] wrong = {13, -1, 100000, 2147483647L, -2147483647L};
-        for (long count : wrong) {
-            broken("COUNT " + count, numbered(count));
-        }
-        PlainCoder plain = new PlainCoder();
-        plain.beginWriting();
-        plain.writeNumber(COUNT, null);
-        broken("COUNT of NO NUMBER", plain);
-        PlainCoder twelve = numbered(12);
-        openRow(twelve, 0L, 0L);
-        for (int i = 1; i < 12; i++) {
-            twelve.writeNumber(GAP, -2L);
-            twelve.writeIndex(i % 2);
-        }
-        twelve.writeNumber(GAP, null);
-        sound("COUNT 12", twelve, 12);
-    }
-
-    private static void brokenRows() {
-        Long[] wrong = {101L, -101L, null, 2147483647L, -2147483647L};
-        for (Long down : wrong) {
-            PlainCoder plain = numbered(1);
-            openRow(plain, down, 0L);
-            plain.writeNumber(GAP, null);
-            broken("ROW " + down, plain);
-        }
-        PlainCoder plain = numbered(2);
-        openRow(plain, 100L, 0L);
-        plain.writeNumber(GAP, null);
-        openRow(plain, -200L, 0L);
-        plain.writeNumber(GAP, null);
-        Check.due("T is -100", sound("ROWs to 100 and to -100", plain, 2).marked(1, 2), -100);
-        PlainCoder lower = numbered(2);
-        openRow(lower, 100L, 0L);
-        lower.writeNumber(GAP, null);
-        openRow(lower, 1L, 0L);
-        broken("ROW to 101", lower);
-    }
-
-    private static void brokenFirsts() {
-        Long[] wrong = {1001L, -1001L, null, 2147483647L, -2147483647L};
-        for (Long first : wrong) {
-            PlainCoder plain = numbered(1);
-            openRow(plain, 0L, first);
-            plain.writeNumber(GAP, null);
-            broken("FIRST " + first, plain);
-        }
-        PlainCoder plain = numbered(2);
-        openRow(plain, 0L, -1000L);
-        plain.writeNumber(GAP, null);
-        openRow(plain, 0L, 2000L);
-        plain.writeNumber(GAP, null);
-        InkCoder ink = sound("FIRSTs to -1000 and to 1000", plain, 2);
-        Check.due("S is -1000", ink.marked(0, 1), -1000);
-        Check.due("S is 1000", ink.marked(1, 1), 1000);
-        ink.begin(true);
-        Check.due("they are written, too", ink.text(1, 1, false, 0), 2);
-        ink.end();
-        ink.begin(false);
-        Check.due("and read again", ink.text(1, 1, false, 0), 2);
-        Check.due("S is 1000", ink.marked(1, 1), 1000);
-    }
-
-    private static void brokenIndexes() {
-        for (int index = 0; index < 8; index++) {
-            PlainCoder plain = numbered(1);
-            plain.writeNumber(ROW, 0L);
-            plain.writeNumber(FIRST, 0L);
-            plain.writeIndex(index);
-            plain.writeNumber(GAP, null);
-            if (index < 2) {
-                Check.due("INDEX", sound("INDEX " + index, plain, 1).marked(0, 0), index);
-            } else {
-                broken("INDEX " + index, plain);
+    /** S and T are -100 .. 100, and the numbers are such that they come out. */
+    private static void outermostMarks() {
+        for (int corner = 0; corner < 4; corner++) {
+            for (int turned = 0; turned < 2; turned++) {
+                InkCoder ink = withSymbols();
+                int[][] all = {{0, -100, -100}, {1, 100, -100}, {0, 100, 100}, {0, -100, 100}};
+                for (int[] mark : all) {
+                    ink.mark(mark[0], mark[1], mark[2]);
+                }
+                int extent = turned == 1 ? 1 : 2;
+                int extentOfOne = turned == 1 ? 3 : 0;
+                boolean far = turned == 1 ? corner == 0 || corner == 2 : corner >= 2;
+                int first = far ? -100 - extent : -100;
+                ink.begin(true);
+                Check.due("text", ink.text(1, corner, turned == 1, 0), 4);
+                ink.end();
+                sameBytes("outermost marks by corner " + corner + ", turned " + turned, ink,
+                        "C4 R-100 F" + first + " I0 G" + (200 - (far ? extentOfOne : extent)) + " I1 G- R200 F200 I0 G"
+                        + (-200 - extent) + " I0 G-");
+                ink.begin(false);
+                Check.due("read", ink.text(1, corner, turned == 1, 0), 4);
+                int[] read = allMarks(ink, 4);
+                for (int i = 0; i < 12; i++) {
+                    Check.due("marked(" + i / 3 + ", " + i % 3 + ")", read[i], all[i / 3][i % 3]);
+                }
             }
         }
     }
 
-    /** S counts, not c: the symbol is 3 wide, so c is 2 more behind it with a corner at the left. */
-    private static void brokenPlaces() {
-        PlainCoder edge = numbered(2);
-        openRow(edge, 0L, 999L);
-        edge.writeNumber(GAP, -1L);
-        edge.writeIndex(0);
-        edge.writeNumber(GAP, null);
-        Check.due("S is 1000", sound("c behind S", edge, 2).marked(1, 1), 1000);
-        PlainCoder over = numbered(2);
-        openRow(over, 0L, 999L);
-        over.writeNumber(GAP, 0L);
-        over.writeIndex(0);
-        over.writeNumber(GAP, null);
-        broken("S is 1001", over);
-        PlainCoder right = numbered(1);
-        openRow(right, 0L, 999L);
-        right.writeNumber(GAP, null);
-        InkCoder ink = reading(right);
-        Check.due("S is 1001 with a corner at the right", ink.text(1, 3, false, 0), InkCoder.BROKEN);
+    /** Twelve in one row, and twelve rows. */
+    private static void twelveMarks() {
+        for (int down = 0; down < 2; down++) {
+            InkCoder ink = withSymbols();
+            StringBuilder items = new StringBuilder("C12 R1 F1 I1");
+            for (int k = 0; k < 12; k++) {
+                Check.due("mark", ink.mark(1, 1 + k, 1 + k * down), k + 1);
+                if (k > 0) {
+                    items.append(down == 1 ? " G- R1 F1 I1" : " G1 I1");
+                }
+            }
+            ink.begin(true);
+            Check.due("twelve", ink.text(1, 1, false, 0), 12);
+            ink.end();
+            sameBytes("twelve marks", ink, items + " G-");
+            ink.begin(false);
+            Check.due("twelve, read", ink.text(1, 1, false, 0), 12);
+            Check.due("the last one", ink.marked(11, 1) * 100 + ink.marked(11, 2), 1200 + 1 + 11 * down);
+            Check.unsupported("a thirteenth", () -> ink.mark(1, 0, 100));
+        }
+    }
+
+    private static void allIndexes() {
+        InkCoder ink = new InkCoder();
+        StringBuilder items = new StringBuilder("C8 R0 F0 I0");
+        for (int k = 0; k < 8; k++) {
+            ink.learn(0);
+            ink.mark(k, k, 0);
+            items.append(k == 0 ? "" : " G1 I" + k);
+        }
+        ink.begin(true);
+        Check.due("eight symbols", ink.text(1, 1, false, 0), 8);
+        ink.end();
+        sameBytes("eight symbols", ink, items + " G-");
         ink.begin(false);
-        Check.due("S is 1000 when it is turned, with a lower corner", ink.text(1, 2, true, 0), 1);
-        Check.due("S", ink.marked(0, 1), 1000);
-    }
-
-    private static void brokenGaps() {
-        long[] behind = {0, 1, -1, 500};
-        for (long gap : behind) {
-            PlainCoder plain = numbered(2);
-            openRow(plain, 0L, 0L);
-            plain.writeNumber(GAP, 4L);
-            plain.writeIndex(1);
-            plain.writeNumber(GAP, gap);
-            broken("GAP " + gap + " behind the last mark of all", plain);
-        }
-        long[] far = {2147483647L, -2147483647L, 1000, -1010};
-        for (long gap : far) {
-            PlainCoder plain = numbered(2);
-            openRow(plain, 0L, 0L);
-            plain.writeNumber(GAP, gap);
-            plain.writeIndex(1);
-            plain.writeNumber(GAP, null);
-            broken("GAP " + gap, plain);
+        Check.due("eight symbols, read", ink.text(1, 1, false, 0), 8);
+        for (int k = 0; k < 8; k++) {
+            Check.due("marked(" + k + ", 0)", ink.marked(k, 0), k);
         }
     }
 
-    /** Even if the marks before the broken one were fine. */
-    private static void nothingIsDrawn() {
-        PlainCoder plain = numbered(2);
-        openRow(plain, 5L, 5L);
-        plain.writeNumber(GAP, 3L);
-        plain.writeIndex(7);
-        broken("the second mark", plain);
+    /** What was read with S up to 1000 can be written, too. */
+    private static void farMarksAreWritten() {
+        String items = "C3 R100 F-1000 I0 G- R-200 F2000 I0 G-2002 I1 G-";
+        InkCoder ink = withSymbols();
+        Made.put(ink, items);
+        ink.begin(false);
+        Check.due("far marks", ink.text(1, 1, false, 0), 3);
+        ink.begin(true);
+        Check.due("far marks, written", ink.text(1, 1, false, 0), 3);
+        ink.end();
+        sameBytes("far marks", ink, items);
+        int[] due = {0, -1000, 100, 0, 1000, -100, 1, -1000, -100};
+        int[] all = allMarks(ink, 3);
+        for (int i = 0; i < 9; i++) {
+            Check.due("far marks: marked(" + i / 3 + ", " + i % 3 + ")", all[i], due[i]);
+        }
+    }
+
+    /** COUNT is one kind; those of number() are others. */
+    private static void countIsSharedWithTheDictionary() {
+        InkCoder ink = new InkCoder();
+        for (int k = 0; k < 3; k++) {
+            ink.learn(0);
+            ink.mark(k, k, 0);
+        }
+        ink.begin(true);
+        for (int i = 0; i < 2; i++) {
+            ink.dictionary();
+            ink.number(0, 3);
+            ink.text(1, 1, false, 0);
+            ink.number(0, 3);
+        }
+        ink.end();
+        String dictionary = "C3 H1 W1 Z W0 Z W0 Z W- N3 ";
+        String text = "C3 R0 F0 I0 G1 I1 G1 I2 G- N3";
+        sameBytes("dictionaries and texts", ink, dictionary + text + " " + dictionary + text);
     }
 }

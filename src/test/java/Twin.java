@@ -16,6 +16,11 @@ final class Twin {
         this.name = name;
     }
 
+    @Override
+    public String toString() {
+        return name;
+    }
+
     int callsLeft() {
         return MOST_CALLS - calls;
     }
@@ -91,6 +96,14 @@ final class Twin {
         both("code(" + i + ")", () -> ink.code(i), () -> plain.code(i));
     }
 
+    /** Compares the bytes from this one on. */
+    void bytesFrom(int first) {
+        length();
+        for (int i = first; i < plain.coder.code.size(); i++) {
+            code(i);
+        }
+    }
+
     void begin(boolean writing) {
         both("begin(" + writing + ")", () -> {
             ink.begin(writing);
@@ -114,8 +127,8 @@ final class Twin {
                 () -> plain.region(b, template, typical));
     }
 
-    void refine(int b, int o, int dx, int dy) {
-        both("refine(" + b + ", " + o + ", " + dx + ", " + dy + ")", () -> ink.refine(b, o, dx, dy),
+    long refine(int b, int o, int dx, int dy) {
+        return both("refine(" + b + ", " + o + ", " + dx + ", " + dy + ")", () -> ink.refine(b, o, dx, dy),
                 () -> plain.refine(b, o, dx, dy));
     }
 
