@@ -49,8 +49,8 @@ public final class BoardsTest {
         for (int[] sides : wrong) {
             Check.wrongArgument("size(3, " + sides[0] + ", " + sides[1] + ")", () -> ink.size(3, sides[0], sides[1]));
         }
-        Check.due("size: refused ones change nothing", ink.board(3, 0) * 10000 + ink.board(3, 1) * 100 + ink.board(3, 2),
-                12424);
+        int seen = ink.board(3, 0) * 10000 + ink.board(3, 1) * 100 + ink.board(3, 2);
+        Check.due("size: refused ones change nothing", seen, 12424);
         ink.begin(true);
         ink.size(3, 2, 1);
         Check.due("size: while writing", ink.board(3, 1), 2);
@@ -134,7 +134,8 @@ public final class BoardsTest {
         Check.due("draw to the left", row(ink, 0, 0), "1001");
         ink.draw(0, 1, -3, 0, 2);
         Check.due("draw one column", row(ink, 0, 0), "0001");
-        int[][] beside = {{4, 0}, {-4, 0}, {0, 1}, {0, -1}, {100, 0}, {-100, 0}, {0, 100}, {0, -100}, {32, 0}, {-32, 0}};
+        int[][] beside = {{4, 0}, {-4, 0}, {0, 1}, {0, -1}, {100, 0}, {-100, 0}, {0, 100}, {0, -100}, {32, 0},
+            {-32, 0}};
         for (int[] b : beside) {
             ink.draw(0, 1, b[0], b[1], 3);
             Check.due("draw beside, at " + b[0] + ", " + b[1], row(ink, 0, 0), "0001");
@@ -166,11 +167,12 @@ public final class BoardsTest {
             Sight.set(ink, 0, "1010", "0101", "1010", "0101");
             Sight.set(ink, 1, "01", "10");
             ink.draw(0, 1, 1, 1, operation);
-            Check.due("draw in the midst by " + operation, Sight.rows(ink, 0), String.join("\n", due[operation]) + "\n");
+            String rows = String.join("\n", due[operation]) + "\n";
+            Check.due("draw in the midst by " + operation, Sight.rows(ink, 0), rows);
         }
     }
 
-    /** A picture of 3 times 2 on a board of 4 times 5: how many points are under it, from just beside to just beside. */
+    /** A picture of 3 times 2 on a board of 4 times 5, from just beside it to just beside it: what is under it. */
     private static void drawOverEachEdge() {
         int[] columns = {0, 1, 2, 3, 3, 2, 1, 0};
         int[] rows = {0, 1, 2, 2, 2, 2, 1, 0};

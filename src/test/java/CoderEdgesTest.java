@@ -296,12 +296,14 @@ public final class CoderEdgesTest {
             wasMet("goes on as usual from " + state);
             wasMet("is wrong in " + state);
         }
-        String[] doings = {"writes the more likely one", "writes the other one", "reads U below q", "reads U not below q"};
+        String[] doings = {"writes the more likely one", "writes the other one", "reads U below q",
+            "reads U not below q"};
         for (String doing : doings) {
             wasMet(doing + ", A is just q");
             wasMet(doing + ", A is just below q");
         }
-        String[] edges = {"writes the more likely one, A is just 32768", "writes the more likely one, A is just below 32768",
+        String[] edges = {"writes the more likely one, A is just 32768",
+            "writes the more likely one, A is just below 32768",
             "reads U not below q, A is just 32768", "reads U not below q, A is just below 32768",
             "C is just 2^27", "C is just below 2^27", "no carry into 255", "a carry makes 255",
             "a carry makes less than 255", "a carry into the 600th byte", "a carry into a lost byte",

@@ -242,7 +242,12 @@ public final class CoderTest {
         }
         Check.due("length", ink.length(), 600);
         Check.due("end()", ink.end(), 600);
-        Check.due("put", ink.put(1), false);
+        int last = ink.code(599);
+        Check.due("put", ink.put(last + 1), false);
+        Check.due("put behind 600: length", ink.length(), 600);
+        Check.due("put behind 600: the last byte", ink.code(599), last);
+        Check.due("cut(601)", ink.cut(601), false);
+        Check.due("cut(601): length", ink.length(), 600);
         Check.outOfBounds("code(600)", () -> ink.code(600));
         Check.due("cut(600)", ink.cut(600), true);
         Check.due("cut(599)", ink.cut(599), true);

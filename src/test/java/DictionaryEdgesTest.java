@@ -150,7 +150,8 @@ public final class DictionaryEdgesTest {
                 fine(before[i] + " W" + w + " P W-", sides[i] + w + "x2");
             }
             fine(before[i] + " W^24 P W-", sides[i] + "24x2");
-            String[] none = {"W0", "W-1", "W25", "W33", "W-19", "W-24", "W256", "W2147483647", "W-2147483647", "W^0", "W^25"};
+            String[] none = {"W0", "W-1", "W25", "W33", "W-19", "W-24", "W256", "W2147483647", "W-2147483647", "W^0",
+                "W^25"};
             for (String width : none) {
                 broken(before[i] + " " + width + " P W-");
             }
@@ -187,7 +188,8 @@ public final class DictionaryEdgesTest {
 
     /** "a number as a WIDTH behind the last symbol of all" */
     private static void numberBehindTheLastSymbol() {
-        String[] behind = {"W0", "W1", "W-1", "W-2", "W21", "W22", "W100000", "W2147483647", "W-2147483647", "W^0", "W^1"};
+        String[] behind = {"W0", "W1", "W-1", "W-2", "W21", "W22", "W100000", "W2147483647", "W-2147483647", "W^0",
+            "W^1"};
         for (String width : behind) {
             broken("C1 H2 W3 P " + width);
             broken("C1 H2 W3 P " + width + " P W-");

@@ -1,12 +1,12 @@
 /**
  * Bytes that are made item by item, also such as the class never writes. The items stand in a text, each a letter and
- * a number: C a COUNT, H a HEIGHT, W a WIDTH, R a ROW, F a FIRST, G a GAP, N a number of kind 0, I an INDEX; P alone
- * are the points of the next symbol, and Z alone those of one that has 0s only. Instead of a number there may be - for
- * NO NUMBER, ~ for NO NUMBER as a number that comes out as -2147483648, and ^ before a number that is coded 2^32 too
- * long, so that it has to wrap.
+ * a number: C a COUNT, H a HEIGHT, W a WIDTH, R a ROW, F a FIRST, G a GAP, I an INDEX, and N, M and O numbers of the
+ * kinds 0, 1 and 2; P alone are the points of the next symbol, and Z alone those of one that has 0s only. Instead of a
+ * number there may be - for NO NUMBER, ~ for NO NUMBER as a number that comes out as -2147483648, and ^ before a
+ * number that is coded 2^32 too long, so that it has to wrap.
  */
 final class Made {
-    private static final String KINDS = "N..CHWRFG";
+    private static final String KINDS = "NMOCHWRFG";
 
     private final PlainCoder plain = new PlainCoder();
     private int h = 0;

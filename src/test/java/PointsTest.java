@@ -298,8 +298,8 @@ public final class PointsTest {
     /** The other board has 24 times 24 points that are 1, the board has 0s: only where they overlap are they unlike. */
     private static void refineOverTheEdges() {
         int[][] rows = {{0, 0, 576}, {23, 0, 24}, {24, 0, 0}, {-23, 0, 24}, {-24, 0, 0}, {0, 23, 24}, {0, 24, 0},
-            {0, -23, 24}, {0, -24, 0}, {23, 23, 1}, {-23, 23, 1}, {23, -23, 1}, {-23, -23, 1}, {24, 24, 0}, {-24, -24, 0},
-            {1, 0, 552}, {0, -1, 552}, {1, 1, 529}};
+            {0, -23, 24}, {0, -24, 0}, {23, 23, 1}, {-23, 23, 1}, {23, -23, 1}, {-23, -23, 1}, {24, 24, 0},
+            {-24, -24, 0}, {1, 0, 552}, {0, -1, 552}, {1, 1, 529}};
         Twin twin = new Twin("refine over the edges");
         twin.size(0, 24, 24);
         twin.size(1, 24, 24);

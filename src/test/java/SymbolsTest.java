@@ -4,6 +4,7 @@ public final class SymbolsTest {
         learn();
         learnTheLargest();
         mark();
+        markBesideOneMark();
         forget();
         symbol();
         marked();
@@ -80,6 +81,22 @@ public final class SymbolsTest {
         Check.wrongArgument("mark a thirteenth above", () -> ink.mark(0, 1, 99));
         Check.outOfBounds("mark a thirteenth of no symbol", () -> ink.mark(8, 1, 100));
         Check.due("the last one", ink.marked(11, 2), 100);
+    }
+
+    /** "t is less than the latest mark's", when that is the only one; with none there is no such bound. */
+    private static void markBesideOneMark() {
+        int[] all = {100, 5, 0, -99};
+        for (int t : all) {
+            InkCoder ink = new InkCoder();
+            ink.learn(0);
+            Check.due("the first mark", ink.mark(0, 0, t), 1);
+            Check.wrongArgument("a mark at " + (t - 1) + " behind one at " + t, () -> ink.mark(0, 0, t - 1));
+            Check.due("refused: no mark more", Sight.marks(ink), 1);
+            Check.due("a mark with the same T", ink.mark(0, 0, t), 2);
+        }
+        InkCoder ink = new InkCoder();
+        ink.learn(0);
+        Check.due("the first mark of all", ink.mark(0, -100, -100), 1);
     }
 
     private static void forget() {

@@ -249,7 +249,8 @@ public final class TextEdgesTest {
         broken("C2 R1 F1 I0 G- R1 F- I0 G-");
         InkCoder ink = fine("C2 R1 F1 I0 G0 I1 G-", "0 1 1, 1 3 1");
         Check.due("drawn", Sight.rows(ink, 1), "0000000\n0111000\n0111000\n0001000\n0001000\n0000001\n");
-        InkCoder beside = fine("C4 R1 F7 I0 G- R0 F-10 I0 G- R5 F3 I0 G- R-10 F3 I1 G-", "0 7 1, 0 -3 1, 0 0 6, 1 3 -4");
+        InkCoder beside = fine("C4 R1 F7 I0 G- R0 F-10 I0 G- R5 F3 I0 G- R-10 F3 I1 G-",
+                "0 7 1, 0 -3 1, 0 0 6, 1 3 -4");
         Check.due("drawn beside the board", Sight.rows(beside, 1),
                 "0000000\n0000000\n0000000\n0000000\n0000000\n0000001\n");
     }
