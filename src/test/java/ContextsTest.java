@@ -60,9 +60,7 @@ public final class ContextsTest {
             codeOne(twin, random);
         }
         twin.end();
-        if (twin.plain.coder.code.size() < 600) {
-            twin.bytesFrom(Math.max(0, twin.plain.coder.code.size() - twin.callsLeft() + 2));
-        }
+        twin.bytesFrom(Math.max(0, twin.plain.coder.code.size() - twin.callsLeft() + 2));
         Check.due(twin + ": calls that are left", twin.callsLeft() >= 0, true);
     }
 
