@@ -111,8 +111,8 @@ public final class ModelTest {
         }
         List<Step> steps = new ArrayList<>();
         for (int i = 1 + random.nextInt(14); i > 0; i--) {
-            steps.add(new Step(random.nextInt(6), random.nextInt(4), random.nextInt(4), random.nextInt(), random.nextInt(),
-                    random.nextBoolean()));
+            steps.add(new Step(random.nextInt(6), random.nextInt(4), random.nextInt(4),
+                    random.nextInt(), random.nextInt(), random.nextBoolean()));
         }
         twin.begin(true);
         for (Step step : steps) {

@@ -58,7 +58,8 @@ final class Twin {
     }
 
     void flip(int b, int x, int y) {
-        both("flip(" + b + ", " + x + ", " + y + ")", () -> ink.flip(b, x, y) ? 1 : 0, () -> plain.flip(b, x, y) ? 1 : 0);
+        both("flip(" + b + ", " + x + ", " + y + ")",
+                () -> ink.flip(b, x, y) ? 1 : 0, () -> plain.flip(b, x, y) ? 1 : 0);
     }
 
     void point(int b, int x, int y) {
@@ -151,7 +152,8 @@ final class Twin {
     }
 
     void mark(int symbol, int s, int t) {
-        both("mark(" + symbol + ", " + s + ", " + t + ")", () -> ink.mark(symbol, s, t), () -> plain.mark(symbol, s, t));
+        both("mark(" + symbol + ", " + s + ", " + t + ")",
+                () -> ink.mark(symbol, s, t), () -> plain.mark(symbol, s, t));
     }
 
     void symbol(int symbol, int x, int y) {
